@@ -1190,11 +1190,13 @@ public final class BoxedPapers {
                 putNumber(home);
             }
             put(':');
+            int first = archive.firstIn(home);
+            int last = archive.lastIn(home);
             Ranges pieces = archive.pieces();
             for (int k = 0; k < pieces.size(); k++) {
-                if (pieces.markOf(k) == box) {
-                    int a = Math.max(pieces.firstOf(k), archive.firstIn(home));
-                    int b = Math.min(pieces.lastOf(k), archive.lastIn(home));
+                if (pieces.markOf(k) == box && pieces.meets(k, first, last)) {
+                    int a = Math.max(pieces.firstOf(k), first);
+                    int b = Math.min(pieces.lastOf(k), last);
                     writeOwn(archive.allSeries(), home, a, b);
                 }
             }
@@ -1435,7 +1437,7 @@ public final class BoxedPapers {
             }
         }
 
-        private static int lowest(char kind, int before) {
+        private static int lowest(int kind, int before) {
             switch (kind) {
                 case 'A':
                 case 'N':
@@ -1447,7 +1449,7 @@ public final class BoxedPapers {
             }
         }
 
-        private static int highest(char kind) {
+        private static int highest(int kind) {
             switch (kind) {
                 case 'P':
                     return MOST_SERIES - 1;

@@ -178,6 +178,8 @@ public final class PromisesTest {
         due("4 ; first", faultOf(";all"), 0);
         due("4 unknown word", faultOf(" alle"), 1);
         due("4 prefix of a word", faultOf("al"), 0);
+        due("4 longer word", faultOf("allz"), 0);
+        due("4 longer word", faultOf("zall"), 0);
         due("4 two words in one", faultOf("allall"), 0);
         due("4 word behind command", faultOf("all all"), 4);
         due("4 number behind command", faultOf("all 1"), 4);
@@ -226,6 +228,11 @@ public final class PromisesTest {
         due("4 eleven digits", faultOf("pass 00000000001"), 5);
         due("4 many digits", faultOf("pass " + repeat("0", 194) + "1"), 5);
         due("4 digits that wrap", faultOf("pass 18446744073709551617"), 5);
+        due("4 no number where 0 is allowed", faultOf("box"), 3);
+        due("4 no number where 0 is allowed", faultOf("box 0"), 5);
+        due("4 no number where 0 is allowed", faultOf("box 0;all"), 5);
+        due("4 no number where 0 is allowed", faultOf("series;all"), 6);
+        due("4 no number where 0 is allowed", faultOf("row x"), 4);
         due("4 second command", faultOf("top 1 5;top 7 6"), 14);
     }
 
@@ -635,6 +642,8 @@ public final class PromisesTest {
         due("15 only the child", x.box(3, 3), 2);
         x.take(15, 16);
         due("15 only sheets without home", x.box(3, 3), 0);
+        due("15 lowest behind another box", x.box(3, 4), 60);
+        due("15 highest before another box", x.box(0, 5), 29);
     }
 
     private static void piece() {
@@ -669,6 +678,9 @@ public final class PromisesTest {
         x.take(20, 30);
         x.lay(0, 20, 30);
         due("17 up to the piece", x.gap(0, 2, 1), 19);
+        x.take(20, 20);
+        x.lay(0, 16, 19);
+        due("17 one sheet at the end", x.gap(0, 2, 0), 20);
         x.series(-1, 500, TOP);
         due("17 whole range", x.gap(1, 0, 1), TOP);
         BoxedPapers y = fortyPieces();
@@ -807,6 +819,8 @@ public final class PromisesTest {
         x.row(0, 20, 31);
         due("26 over three pieces", x.unlisted(0), 18);
         due("26 other box", x.unlisted(1), 10);
+        x.row(1, 22, 29);
+        due("26 one sheet at each end", x.unlisted(1), 2);
         x.row(1, 1, TOP);
         due("26 all listed", x.unlisted(1), 0);
         due("26 empty box", x.unlisted(7), 0);
