@@ -143,7 +143,7 @@ public final class LanguageTest {
             manyCalls(x);
             least = Math.min(least, threads.getCurrentThreadAllocatedBytes() - before);
         }
-        must(least < 200, "calls make no objects: " + least + " bytes");
+        must(least == 0, "calls make no objects: " + least + " bytes");
     }
 
     private static void manyCalls(BoxedPapers x) {
