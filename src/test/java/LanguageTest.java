@@ -39,6 +39,7 @@ public final class LanguageTest {
             must(!Modifier.isPublic(inside.getModifiers()), "no public class " + inside);
             fields(inside);
             methods(inside);
+            privateNames(inside);
         }
         methods(BoxedPapers.class);
         must(BoxedPapers.class.getDeclaredClasses().length <= 12, "at most twelve classes");
@@ -78,6 +79,13 @@ public final class LanguageTest {
             }
         }
         must(constants.equals(new TreeSet<>(List.of("NONE", "UNKNOWN", "OUTSIDE", "NOT", "FULL"))), "the constants");
+    }
+
+    private static void privateNames(Class<?> inside) {
+        for (Method m : inside.getDeclaredMethods()) {
+            boolean free = !Modifier.isPrivate(m.getModifiers()) || FACE.stream().noneMatch(f -> f.startsWith(m.getName() + " "));
+            must(free, "no private method with a name of the face: " + m);
+        }
     }
 
     private static void fields(Class<?> c) {

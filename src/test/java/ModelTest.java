@@ -992,50 +992,14 @@ public final class ModelTest {
             if (!good || done.size() >= CALLS) {
                 return;
             }
-            String call = name + Arrays.toString(v).replace('[', '(').replace(']', ')');
+            Call call = new Call(name, v);
             int want = model.answer(name, v);
-            int got = ask(name, v);
+            int got = call.on(real);
             done.add(call + " = " + got);
             if (got != want) {
                 good = false;
                 System.out.println("seed " + seed + ", due at the end is " + want + ":\n" + String.join("; ", done));
             }
-        }
-
-        private int ask(String name, int[] v) {
-            return switch (name) {
-                case "type" -> real.type(v[0]);
-                case "erase" -> real.erase();
-                case "fault" -> real.fault();
-                case "tell" -> real.tell();
-                case "series" -> real.series(v[0], v[1], v[2]);
-                case "room" -> real.room(v[0], v[1]);
-                case "lay" -> real.lay(v[0], v[1], v[2]);
-                case "take" -> real.take(v[0], v[1]);
-                case "shift" -> real.shift(v[0], v[1]);
-                case "stow" -> real.stow(v[0]);
-                case "pass" -> real.pass(v[0]);
-                case "undo" -> real.undo();
-                case "of" -> real.of(v[0], v[1]);
-                case "box" -> real.box(v[0], v[1]);
-                case "piece" -> real.piece(v[0], v[1]);
-                case "gap" -> real.gap(v[0], v[1], v[2]);
-                case "home" -> real.home(v[0]);
-                case "where" -> real.where(v[0]);
-                case "was" -> real.was(v[0], v[1]);
-                case "move" -> real.move(v[0], v[1]);
-                case "trail" -> real.trail(v[0], v[1]);
-                case "row" -> real.row(v[0], v[1], v[2]);
-                case "clear" -> real.clear();
-                case "listed" -> real.listed(v[0], v[1]);
-                case "unlisted" -> real.unlisted(v[0]);
-                case "label" -> real.label(v[0]);
-                case "paper" -> real.paper(v[0]);
-                case "plan" -> real.plan(v[0], v[1], v[2]);
-                case "left" -> real.left(v[0]);
-                case "count" -> real.count(v[0]);
-                default -> throw new IllegalStateException(name);
-            };
         }
     }
 }
