@@ -7,6 +7,7 @@ import java.lang.reflect.Modifier;
 import java.nio.file.Files;
 import java.nio.file.Path;
 import java.util.List;
+import java.util.Random;
 import java.util.Set;
 import java.util.TreeSet;
 import java.util.regex.Matcher;
@@ -46,6 +47,7 @@ public final class LanguageTest {
         words(withoutComments(Files.readString(SOURCE)));
         lengths(Files.readAllLines(SOURCE));
         objects();
+        anyCalls();
         if (wrong != 0) {
             System.exit(1);
         }
@@ -192,6 +194,29 @@ public final class LanguageTest {
         typeCommands(x);
         x.fault();
         x.tell();
+    }
+
+    /** No call throws for any arguments in any state, so also behind the 512th call, where the answers are free. */
+    private static void anyCalls() {
+        int[] some = {Integer.MIN_VALUE, -2000000000, -101, -100, -2, -1, 0, 0, 0, 1, 1, 2, 3, 5, 7, 8, 9, 10, 12, 24, 40,
+            50, 97, 100, 199, 200, 201, 255, 256, 999, 1000, 1999999999, 2000000000, 2000000001, Integer.MAX_VALUE};
+        Random random = new Random(1);
+        BoxedPapers x = new BoxedPapers();
+        String[] face = FACE.toArray(new String[0]);
+        for (int turn = 0; turn < 300000; turn++) {
+            String[] words = face[random.nextInt(face.length)].split(" ");
+            int[] values = random.ints(Integer.parseInt(words[1]), 0, some.length).map(k -> some[k]).toArray();
+            Call call = new Call(words[0], values);
+            try {
+                if (turn % 1000 == 0) {
+                    typeCommands(x);
+                }
+                call.on(x);
+            } catch (RuntimeException e) {
+                must(false, "no call throws: " + call + " at turn " + turn + ", " + e);
+                return;
+            }
+        }
     }
 
     private static void typeCommands(BoxedPapers x) {

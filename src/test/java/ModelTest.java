@@ -20,7 +20,8 @@ public final class ModelTest {
 
     public static void main(String[] args) {
         int runs = args.length > 0 ? Integer.parseInt(args[0]) : 1500;
-        for (int seed = 1; seed <= runs; seed++) {
+        int first = args.length > 1 ? Integer.parseInt(args[1]) : 1;
+        for (int seed = first; seed < first + runs; seed++) {
             if (!new Run(seed).agrees()) {
                 System.exit(1);
             }
